@@ -476,7 +476,7 @@ public final class LineDealer {
         }
     }
 
-    /** Tries all dealings of a small net. */
+    /** Tries all dealings of a small net; between two searches its loads and bits are 0. */
     private static final class BestSearch {
         private final Net net;
         private final int[] lines = new int[MOST_LINES_FOR_BEST];
@@ -493,10 +493,8 @@ public final class LineDealer {
         int fewestCopies(int loadLimit) {
             collectLines();
             limit = loadLimit;
-            // One more than any dealing has: each line makes two copies at most.
-            fewest = 2 * size + 1;
-            Arrays.fill(tryLoads, 0);
-            Arrays.fill(tryBits, 0);
+            // No dealing has more: each line makes two copies at most.
+            fewest = 2 * size;
             dealFrom(0, 0, 0);
             return fewest;
         }
