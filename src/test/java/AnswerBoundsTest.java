@@ -23,6 +23,7 @@ public final class AnswerBoundsTest {
     countOfOthers();
     countsOfAnEmptyNet();
     countsOfAFullNet();
+    greatestAndLeastLoad();
     Check.end("AnswerBoundsTest");
   }
 
@@ -228,6 +229,11 @@ public final class AnswerBoundsTest {
     Check.due("16: three and one, room 2", x.best(), 6);
     x.weights(1, 0);
     Check.due("16: three and one, room 3", x.best(), 4);
+    LineDealer pairs = Nets.made(2, 0, 0, 5);
+    Nets.deal(pairs, 0, 1, 0, 1, 2, 3, 2, 3, 4, 5, 4, 5);
+    Check.due("16: three pairs on two hosts, room 3", pairs.best(), 8);
+    pairs.more();
+    Check.due("16: three pairs on three hosts, room 2", pairs.best(), 6);
   }
 
   private static void bestOfFewLeftOfMany() {
@@ -354,6 +360,19 @@ public final class AnswerBoundsTest {
       int[] due = {hosts, 0, 0, 0, 0, 0, 0, 2, 20, 5, 0};
       LineDealer x = new LineDealer(hosts);
       for (int what = 0; what <= 10; what++) Check.due("20: count(" + what + ") at first", x.count(what), due[what]);
+    }
+  }
+
+  private static void greatestAndLeastLoad() {
+    for (int most = 0; most < 3; most++) {
+      LineDealer x = Nets.made(3, 1, 100, 5);
+      Nets.deal(x, 0, most + 3, 0, most + 3);
+      Check.due("20: count(4), of host " + most, x.count(4), 2);
+      Check.due("20: count(5), of the others", x.count(5), 0);
+      LineDealer y = Nets.even(3, 6);
+      y.leave(most);
+      Check.due("20: count(4), of the others", y.count(4), 2);
+      Check.due("20: count(5), of host " + most, y.count(5), 1);
     }
   }
 

@@ -110,7 +110,7 @@ public final class TermBoundsTest {
       {0, 2, 1, 1}, {0, 2, 2, 1}, {0, 2, 3, 2}, {0, 8, 8, 1}, {0, 8, 9, 2}, {0, 8, 16, 2}, {0, 8, 17, 3},
       {20, 2, 5, 3}, {20, 2, 6, 4}, {20, 3, 5, 2}, {20, 3, 6, 3}, {20, 6, 5, 1}, {20, 6, 6, 2}, {20, 6, 300, 60},
       {50, 3, 2, 1}, {50, 3, 3, 2}, {50, 3, 4, 2}, {50, 3, 5, 3}, {25, 5, 4, 1}, {25, 5, 5, 2}, {25, 5, 300, 75},
-      {1, 2, 2, 2}, {1, 2, 200, 101}, {1, 2, 201, 102}, {99, 2, 200, 199}, {99, 2, 1, 1}, {99, 2, 2, 2},
+      {1, 2, 2, 2}, {1, 2, 101, 52}, {1, 2, 200, 101}, {1, 2, 201, 102}, {99, 2, 200, 199}, {99, 2, 1, 1}, {99, 2, 2, 2},
       {100, 2, 1, 1}, {100, 2, 300, 300}, {100, 8, 4, 1}, {100, 8, 5, 2}, {100, 7, 7, 2}, {100, 7, 8, 3},
       {0, 7, 300, 43}, {40, 7, 5, 1}, {40, 7, 6, 2}, {40, 7, 300, 60}};
     for (int[] d : due) {
@@ -119,7 +119,7 @@ public final class TermBoundsTest {
       Check.due("room: slack " + d[0] + ", " + d[1] + " hosts, " + d[2] + " lines", x.room(), d[3]);
     }
     for (int hosts = 2; hosts <= 8; hosts++) {
-      for (int slack = 0; slack <= 100; slack += 4) roomAsItGrows(hosts, slack);
+      for (int slack = 0; slack <= 100; slack++) roomAsItGrows(hosts, slack);
     }
   }
 
@@ -289,6 +289,22 @@ public final class TermBoundsTest {
     Check.due("dealt", Nets.hosts(fewer), "001");
     Check.due("fewer copies, the squares more: does", fewer.better(50), 1);
     Check.due("all together", Nets.hosts(fewer), "000");
+    oneCopyFewer(Nets.made(2, 1, 100, 5), 0, 2, 0, 4, 0, 3, 2, 3);
+    oneCopyFewer(Nets.made(2, 1, 100, 5), 2, 0, 4, 0, 3, 0, 3, 2);
+  }
+
+  private static void oneCopyFewer(LineDealer x, int... ends) {
+    Check.due("dealt", Nets.deal(x, ends), "0011");
+    Check.due("copies", x.all(), 6);
+    // Line 0 frees host 0 of point 2, not of point 0, which line 1 holds there; host 1 has both.
+    Check.due("one copy fewer", x.better(1), 1);
+    Check.due("line 0 goes", Nets.hosts(x), "1011");
+    Check.due("copies", x.all(), 5);
+    // Line 1 frees host 0 of both its points; host 1 has point 0.
+    Check.due("one copy fewer again", x.better(1), 1);
+    Check.due("line 1 goes", Nets.hosts(x), "1111");
+    Check.due("copies", x.all(), 4);
+    Check.due("none lessens", x.better(1), 0);
   }
 
   /** "of like ones that of the least LINE, of these to the least HOST" */
