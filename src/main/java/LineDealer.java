@@ -531,9 +531,9 @@ public final class LineDealer {
             int v = net.secondEnd[lines[depth]];
             int bitsOfU = tryBits[u];
             int bitsOfV = tryBits[v];
-            int made = (bitsOfU >> host & 1 ^ 1) + (bitsOfV >> host & 1 ^ 1);
             tryBits[u] = bitsOfU | 1 << host;
             tryBits[v] = bitsOfV | 1 << host;
+            int made = (tryBits[u] == bitsOfU ? 0 : 1) + (tryBits[v] == bitsOfV ? 0 : 1);
             tryLoads[host]++;
             dealFrom(depth + 1, copies + made, used);
             tryLoads[host]--;
@@ -569,20 +569,21 @@ public final class LineDealer {
             System.arraycopy(values, 0, before, 0, POINTS);
             boolean changed = false;
             for (int line = 0; line < net.came; line++) {
-                if (net.isLive(line)) {
-                    int u = net.firstEnd[line];
-                    int v = net.secondEnd[line];
-                    changed |= lowerTo(u, before[v]) | lowerTo(v, before[u]);
+                if (net.isLive(line) && spreadAlong(net.firstEnd[line], net.secondEnd[line])) {
+                    changed = true;
                 }
             }
             return changed;
         }
 
-        private boolean lowerTo(int point, int value) {
-            if (value >= values[point]) {
+        /** Of the values ahead of the round only the lower one can change the other end's. */
+        private boolean spreadAlong(int u, int v) {
+            int taker = before[u] < before[v] ? v : u;
+            int value = Math.min(before[u], before[v]);
+            if (value >= values[taker]) {
                 return false;
             }
-            values[point] = value;
+            values[taker] = value;
             return true;
         }
 

@@ -2,7 +2,8 @@ import java.util.Random;
 
 /** Long runs of calls, from seeds that are always the same, each answer beside that of PlainDealer. */
 public final class PlainRunsTest {
-  private static final int RUNS = 260;
+  private static final int RUNS = 280;
+  private static final int FULL_RUNS = 20;
   private static final int CALLS = 512;
 
   private final int seed;
@@ -32,8 +33,9 @@ public final class PlainRunsTest {
   }
 
   private int go() {
-    if (seed % 3 == 0) same("window", 8, 0, bit(dealer.window(8)), bit(plain.window(8)));
-    while (calls < CALLS && wrong == 0) {
+    if (seed <= FULL_RUNS) fill();
+    else if (seed % 3 == 0) same("window", 8, 0, bit(dealer.window(8)), bit(plain.window(8)));
+    while (calls < CALLS - 1 && wrong == 0) {
       if (random.nextInt(100) < lineShare) deal();
       else change();
       ask();
@@ -41,6 +43,17 @@ public final class PlainRunsTest {
     }
     askAll();
     return wrong;
+  }
+
+  /** Runs that ask after each step would never come to the 300th line. */
+  private void fill() {
+    same("rule", seed % 3, 0, bit(dealer.rule(seed % 3)), bit(plain.rule(seed % 3)));
+    int most = Math.min(points, 40);
+    while (plain.count(1) < 300 - seed % 10 && wrong == 0) {
+      int u = random.nextInt(most);
+      int v = (u + 1 + random.nextInt(most - 1)) % most;
+      same("line", u, v, dealer.line(u, v), plain.line(u, v));
+    }
   }
 
   private void deal() {
